@@ -1,0 +1,58 @@
+/** Compares answers with those that are due, and ends a test with exit code 1 if one was wrong. */
+final class Check {
+    static final String BOUNDS = "IndexOutOfBoundsException";
+    static final String STATE = "IllegalStateException";
+    static final String ARGUMENT = "IllegalArgumentException";
+    static final String UNSUPPORTED = "UnsupportedOperationException";
+
+    private static int wrong = 0;
+
+    interface Call {
+        void run();
+    }
+
+    static void same(String what, long got, long due) {
+        if (got != due) {
+            report(what + " answered " + got + ", due is " + due);
+        }
+    }
+
+    static void holds(String what, boolean held) {
+        if (!held) {
+            report(what + " does not hold");
+        }
+    }
+
+    /** The call throws just this exception, and nothing that can be seen of the volume changes. */
+    static void refused(String what, String due, GuardVolume volume, Call call) {
+        String before = Look.all(volume);
+        String got = "nothing";
+        try {
+            call.run();
+        } catch (RuntimeException e) {
+            got = e.getClass().getSimpleName();
+        }
+        if (!got.equals(due)) {
+            report(what + " threw " + got + ", due is " + due);
+        }
+        if (!Look.all(volume).equals(before)) {
+            report(what + " changed something though it threw");
+        }
+    }
+
+    static void report(String text) {
+        wrong++;
+        System.out.println(text);
+    }
+
+    static boolean anyWrong() {
+        return wrong != 0;
+    }
+
+    static void end() {
+        System.out.println(wrong == 0 ? "all answers are as due" : wrong + " answers are not as due");
+        if (wrong != 0) {
+            System.exit(1);
+        }
+    }
+}
