@@ -112,6 +112,7 @@ public final class ScrubTest {
         Check.same("copy 1 is old by the other list", volume.verdict(1, 0), 4);
         Check.same("list and copy", volume.scrub(1), 2);
         finding("the list of copy 1", volume, 0, 0, 0, 6, 64);
+        Check.same("page 0 on drive 0 alone has version 3", volume.count(7), 3);
         finding("copy 1", volume, 1, 0, 1, 4, 0);
         Check.same("good", volume.verdict(1, 0), 0);
         GuardVolume newer = new GuardVolume();
