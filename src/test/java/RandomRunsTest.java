@@ -7,11 +7,13 @@ public final class RandomRunsTest {
     private static final int CALLS = 512;
     private static final String[] NAMES = {"write", "read", "plan", "cutAfter", "start", "scrub", "findings",
         "replace", "rebuild", "count", "finding"};
-    /** How often, of a hundred, each of these calls is made. */
-    private static final int[] SHARES = {35, 15, 20, 5, 6, 10, 3, 1, 2, 1, 2};
+    private static final int START = 4;
+    /** How often, of a hundred, each of these calls is made: with many faults, and with few. */
+    private static final int[] MANY_FAULTS = {35, 15, 20, 5, 6, 10, 3, 1, 2, 1, 2};
+    private static final int[] FEW_FAULTS = {66, 12, 4, 2, 1, 8, 1, 1, 2, 1, 2};
 
     private final Random random;
-    /** Runs on few blocks meet one another's faults, runs on many go through all pages. */
+    /** Runs on few blocks meet their own faults again, runs on many go through all pages; few faults, high versions. */
     private final int style;
     private final GuardVolume volume = new GuardVolume();
     private final PlainModel model = new PlainModel();
@@ -54,10 +56,14 @@ public final class RandomRunsTest {
     }
 
     private int chooseSort() {
+        if (volume.count(4) == 0 && random.nextInt(3) == 0) {
+            return START;
+        }
+        int[] shares = style == 3 ? FEW_FAULTS : MANY_FAULTS;
         int left = random.nextInt(100);
         int sort = 0;
-        while (left >= SHARES[sort]) {
-            left -= SHARES[sort];
+        while (left >= shares[sort]) {
+            left -= shares[sort];
             sort++;
         }
         return sort;
@@ -99,7 +105,7 @@ public final class RandomRunsTest {
     }
 
     private int block() {
-        return near(style == 0 ? 64 : style == 1 ? 8 : 20);
+        return near(style == 0 ? 64 : style == 1 ? 8 : style == 2 ? 20 : 2);
     }
 
     private int slot() {
@@ -107,7 +113,7 @@ public final class RandomRunsTest {
     }
 
     private int planned() {
-        return random.nextInt(8) == 0 ? random.nextInt(54) - 1 : 1 + random.nextInt(style == 3 ? 3 : 12);
+        return random.nextInt(8) == 0 ? random.nextInt(54) - 1 : 1 + random.nextInt(style == 2 ? 3 : 12);
     }
 
     private int askVolume(int sort, int[] with) {
