@@ -6,9 +6,15 @@ final class Check {
     static final String UNSUPPORTED = "UnsupportedOperationException";
 
     private static int wrong = 0;
+    private static String sentence = "";
 
     interface Call {
         void run();
+    }
+
+    /** The words of the document that the answers behind this call are held against. */
+    static void sentence(String words) {
+        sentence = "'" + words + "': ";
     }
 
     static void same(String what, long got, long due) {
@@ -40,9 +46,22 @@ final class Check {
         }
     }
 
+    static void row(String what, GuardVolume volume, int drive, int slot, String due) {
+        String got = Look.row(volume, drive, slot);
+        if (!got.equals(due)) {
+            report(what + " is the row " + got + ", due is " + due);
+        }
+    }
+
+    static void finding(String what, GuardVolume volume, int k, int... due) {
+        for (int i = 0; i < 4; i++) {
+            same(what + ": finding(" + k + ", " + i + ")", volume.finding(k, i), due[i]);
+        }
+    }
+
     static void report(String text) {
         wrong++;
-        System.out.println(text);
+        System.out.println(sentence + text);
     }
 
     static boolean anyWrong() {

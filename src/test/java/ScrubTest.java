@@ -15,12 +15,6 @@ public final class ScrubTest {
         Check.end();
     }
 
-    private static void finding(String what, GuardVolume volume, int k, int... due) {
-        for (int i = 0; i < 4; i++) {
-            Check.same(what + ": finding(" + k + ", " + i + ")", volume.finding(k, i), due[i]);
-        }
-    }
-
     private static void goesOnWhereItStopped() {
         GuardVolume volume = new GuardVolume();
         Check.same("none", volume.scrub(0), 0);
@@ -53,9 +47,9 @@ public final class ScrubTest {
         int writes0 = volume.count(0);
         int writes1 = volume.count(1);
         Check.same("three findings", volume.scrub(64), 3);
-        finding("old", volume, 0, 9, 0, 4, 9);
-        finding("foreign", volume, 1, 18, 0, 2, 9);
-        finding("torn", volume, 2, 27, 1, 1, 27);
+        Check.finding("old", volume, 0, 9, 0, 4, 9);
+        Check.finding("foreign", volume, 1, 18, 0, 2, 9);
+        Check.finding("torn", volume, 2, 27, 1, 1, 27);
         Check.same("kept", volume.findings(false), 3);
         Check.same("two copies stored on 0, no list", volume.count(0), writes0 + 2);
         Check.same("one copy stored on 1, no list", volume.count(1), writes1 + 1);
@@ -77,7 +71,7 @@ public final class ScrubTest {
             volume.write(42, 0, 2);
             Check.holds("wrong", !volume.isRight(drive, 5));
             Check.same("one finding", volume.scrub(64), 1);
-            finding("list on " + drive, volume, 0, 40, drive, 6, 69);
+            Check.finding("list on " + drive, volume, 0, 40, drive, 6, 69);
             int[] versions = {0, 0, 2, 0, 0, 1, 0, 0};
             Check.holds("the list", Look.row(volume, drive, 69).equals(Look.wholeRow(versions, 69, 4)));
             Check.holds("right", volume.isRight(drive, 5));
@@ -87,8 +81,8 @@ public final class ScrubTest {
         stray.plan(0, 1, 1, 71);
         stray.write(3, 0, 5);
         Check.same("a list and a copy", stray.scrub(64), 2);
-        finding("the copy", stray, 0, 3, 0, 4, 3);
-        finding("the address in the page's slot", stray, 1, 56, 0, 6, 3);
+        Check.finding("the copy", stray, 0, 3, 0, 4, 3);
+        Check.finding("the address in the page's slot", stray, 1, 56, 0, 6, 3);
         GuardVolume both = new GuardVolume();
         both.plan(1, 1, 0, 0);
         both.write(3, 0, 5);
@@ -96,9 +90,9 @@ public final class ScrubTest {
         both.write(9, 0, 5);
         Check.holds("neither list is right", !both.isRight(0, 0) && !both.isRight(1, 0));
         Check.same("8 blocks unknown, one old", both.scrub(64), 9);
-        finding("unknown", both, 0, 0, -1, 7, -1);
-        finding("unknown", both, 7, 7, -1, 7, -1);
-        finding("old", both, 8, 9, 0, 4, 9);
+        Check.finding("unknown", both, 0, 0, -1, 7, -1);
+        Check.finding("unknown", both, 7, 7, -1, 7, -1);
+        Check.finding("old", both, 8, 9, 0, 4, 9);
     }
 
     /** The list is mended first, and the copy is judged by it then. */
@@ -111,9 +105,9 @@ public final class ScrubTest {
         Check.holds("list of copy 1 is wrong", !volume.isRight(0, 0));
         Check.same("copy 1 is old by the other list", volume.verdict(1, 0), 4);
         Check.same("list and copy", volume.scrub(1), 2);
-        finding("the list of copy 1", volume, 0, 0, 0, 6, 64);
+        Check.finding("the list of copy 1", volume, 0, 0, 0, 6, 64);
         Check.same("page 0 on drive 0 alone has version 3", volume.count(7), 3);
-        finding("copy 1", volume, 1, 0, 1, 4, 0);
+        Check.finding("copy 1", volume, 1, 0, 1, 4, 0);
         Check.same("good", volume.verdict(1, 0), 0);
         GuardVolume newer = new GuardVolume();
         newer.plan(0, 1, 0, 0);
@@ -125,7 +119,7 @@ public final class ScrubTest {
         newer.start();
         Check.same("both lists began at zeros", newer.verdict(1, 6), 5);
         Check.same("newer is found", newer.scrub(64), 1);
-        finding("newer", newer, 0, 6, 1, 5, 6);
+        Check.finding("newer", newer, 0, 6, 1, 5, 6);
         Check.same("the listed version is taken", newer.raw(1, 6, 0), 0);
     }
 
@@ -136,7 +130,7 @@ public final class ScrubTest {
         volume.write(62, 0, 1);
         int writes = volume.count(0) + volume.count(1);
         Check.same("one finding", volume.scrub(64), 1);
-        finding("none", volume, 0, 62, -1, 7, -1);
+        Check.finding("none", volume, 0, 62, -1, 7, -1);
         Check.same("nothing stored", volume.count(0) + volume.count(1), writes);
         Check.same("told each time", volume.scrub(64), 1);
     }
@@ -154,8 +148,8 @@ public final class ScrubTest {
         Check.same("start", volume.start(), 0);
         Check.same("told again", volume.scrub(64), 1);
         Check.same("kept", volume.findings(false), 2);
-        finding("first", volume, 0, 8, 1, 6, 65);
-        finding("again", volume, 1, 8, 1, 6, 65);
+        Check.finding("first", volume, 0, 8, 1, 6, 65);
+        Check.finding("again", volume, 1, 8, 1, 6, 65);
         Check.same("once around", volume.count(6), 8);
     }
 
@@ -182,8 +176,8 @@ public final class ScrubTest {
         volume.plan(0, 3, 1, 30);
         volume.write(10, 0, 1);
         Check.same("mended elsewhere, and that is found", volume.scrub(64), 2);
-        finding("old", volume, 0, 10, 0, 4, 10);
-        finding("foreign", volume, 1, 30, 0, 2, 10);
+        Check.finding("old", volume, 0, 10, 0, 4, 10);
+        Check.finding("foreign", volume, 1, 30, 0, 2, 10);
         Check.same("old still", volume.verdict(0, 10), 4);
         Check.same("next time", volume.scrub(64), 1);
         GuardVolume list = new GuardVolume();
@@ -191,8 +185,8 @@ public final class ScrubTest {
         list.plan(1, 3, 0, 0);
         list.write(10, 0, 1);
         Check.same("dropped at block 8, stored at block 9", list.scrub(64), 2);
-        finding("at 8", list, 0, 8, 1, 6, 65);
-        finding("at 9", list, 1, 9, 1, 6, 65);
+        Check.finding("at 8", list, 0, 8, 1, 6, 65);
+        Check.finding("at 9", list, 1, 9, 1, 6, 65);
         Check.same("its version was counted on", list.raw(1, 65, 10), 3);
     }
 
@@ -204,15 +198,15 @@ public final class ScrubTest {
         Check.same("kept", volume.findings(false), 64);
         Check.same("all told", volume.scrub(64), 64);
         Check.same("kept", volume.findings(false), 100);
-        finding("the hundredth", volume, 99, 35, -1, 7, -1);
+        Check.finding("the hundredth", volume, 99, 35, -1, 7, -1);
         Check.same("all told, none kept", volume.scrub(10), 10);
         Check.same("kept", volume.findings(false), 100);
-        finding("the first", volume, 0, 0, -1, 7, -1);
+        Check.finding("the first", volume, 0, 0, -1, 7, -1);
         Check.refused("finding 100", Check.BOUNDS, volume, () -> volume.finding(100, 0));
         Check.same("cleared", volume.findings(true), 100);
         Check.same("room again", volume.scrub(2), 2);
         Check.same("kept", volume.findings(false), 2);
-        finding("the new first", volume, 0, 10, -1, 7, -1);
+        Check.finding("the new first", volume, 0, 10, -1, 7, -1);
     }
 
     private static void findingsAreCleared() {
