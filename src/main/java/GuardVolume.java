@@ -426,9 +426,11 @@ public final class GuardVolume {
         private int writes = 0;
 
         private Drive() {
+            int[] first = new int[ROW];
             for (int slot = 0; slot < SLOTS; slot++) {
-                numbers[slot * ROW + ADDRESS] = slot;
-                numbers[slot * ROW + SUM] = sumOf(numbers, slot * ROW);
+                first[ADDRESS] = slot;
+                first[SUM] = sumOf(first, 0);
+                System.arraycopy(first, 0, numbers, slot * ROW, ROW);
             }
         }
 

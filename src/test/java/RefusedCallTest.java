@@ -128,10 +128,16 @@ public final class RefusedCallTest {
         for (int k : new int[] {-1, 4, FIRST, LAST}) {
             refused("finding what", Check.BOUNDS, volume -> volume.finding(0, k));
         }
+        wrongCuts();
+        wrongPlans();
+    }
+
+    private void wrongCuts() {
+        Check.sentence("Power is to be CUT behind the next n writes (0 .. 100); -1: it is not. "
+                + "IllegalArgumentException; IllegalStateException.");
         for (int n : new int[] {-2, 101, FIRST, LAST}) {
             refused("cutAfter", Check.ARGUMENT, volume -> cut(volume, n));
         }
-        wrongPlans();
     }
 
     private void wrongPlans() {
@@ -217,6 +223,11 @@ public final class RefusedCallTest {
         Check.holds(what + " changes nothing later", Look.all(volume).equals(Look.all(twin)));
     }
 
+    /** Only when it is off: else the twin, too, would have a call that throws. */
+    private static int started(GuardVolume volume) {
+        return volume.count(4) == 0 ? volume.start() : -1;
+    }
+
     private static String answer(GuardVolume volume, Use use) {
         try {
             return Integer.toString(use.on(volume));
@@ -229,13 +240,13 @@ public final class RefusedCallTest {
     private static List<Use> later() {
         List<Use> later = new ArrayList<>();
         later.add(volume -> volume.code());
-        later.add(volume -> volume.start());
+        later.add(RefusedCallTest::started);
         later.add(volume -> volume.findings(true));
         for (int i = 0; i < 30; i++) {
             int block = i;
             later.add(volume -> volume.write(block, 1, 5));
             later.add(volume -> volume.count(4));
-            later.add(volume -> volume.start());
+            later.add(RefusedCallTest::started);
             later.add(volume -> volume.count(2) * 100 + volume.count(3));
         }
         later.add(volume -> volume.scrub(20));
